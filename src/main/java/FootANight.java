@@ -454,10 +454,10 @@ public final class FootANight {
                         return step - Law.TAKE;
                     }
                     top = 0;
-                } else if (step == Law.NOT) {
+                } else if (step == Law.SIGNS + Reader.NOT) {
                     negate(top);
-                } else if (step >= Law.PAIRS) {
-                    top = join(step, top);
+                } else if (step >= Law.SIGNS) {
+                    top = join(step - Law.SIGNS, top);
                 } else if (top < stack.length) {
                     stack[top] = step >= Law.NAMES ? seen(f, step - Law.NAMES) : step;
                     top++;
@@ -472,11 +472,11 @@ public final class FootANight {
             }
         }
 
-        private int join(int step, int top) {
+        private int join(int sign, int top) {
             if (top < 2) {
                 return top;
             }
-            stack[top - 2] = Law.joined(step, stack[top - 2], stack[top - 1]);
+            stack[top - 2] = Law.joined(sign, stack[top - 2], stack[top - 1]);
             return top - 1;
         }
 
@@ -606,21 +606,14 @@ public final class FootANight {
         }
     }
 
-    /** A text as steps of a stack machine: numbers stand for themselves; each line ends with TAKE and its doing. */
+    /**
+     * A text as steps of a stack machine: numbers stand for themselves, then names, then signs by their kind of
+     * token; each line ends with TAKE and its doing.
+     */
     private static final class Law {
         static final int NAMES = 10000;
-        static final int PAIRS = 10100;
-        static final int ADD = 10100;
-        static final int LESS = 10101;
-        static final int TIMES = 10102;
-        static final int PART = 10103;
-        static final int BELOW = 10104;
-        static final int SAME = 10105;
-        static final int ABOVE = 10106;
-        static final int AND = 10107;
-        static final int OR = 10108;
-        static final int NOT = 10109;
-        static final int TAKE = 10200;
+        static final int SIGNS = 10100;
+        static final int TAKE = 10400;
 
         final int[] code = new int[MOST_TAPE];
         int length = 0;
@@ -630,22 +623,22 @@ public final class FootANight {
             length = count;
         }
 
-        static int joined(int step, int a, int b) {
-            switch (step) {
-                case ADD: return a + b;
-                case LESS: return a - b;
-                case TIMES: return a * b;
-                case PART: return b == 0 ? 0 : a / b;
-                case BELOW: return a < b ? 1 : 0;
-                case SAME: return a == b ? 1 : 0;
-                case ABOVE: return a > b ? 1 : 0;
-                case AND: return a & b;
+        static int joined(int sign, int a, int b) {
+            switch (sign) {
+                case '+': return a + b;
+                case '-': return a - b;
+                case '*': return a * b;
+                case '/': return b == 0 ? 0 : a / b;
+                case '<': return a < b ? 1 : 0;
+                case '=': return a == b ? 1 : 0;
+                case '>': return a > b ? 1 : 0;
+                case Reader.AND: return a & b;
                 default: return a | b;
             }
         }
     }
 
-    /** Reads a text; each method reads on from the token at hand and answers whether there was no fault. */
+    /** Reads a text token by token: what may stand next is known, signs wait until both their sides are read. */
     private static final class Reader {
         // each with a blank behind it; the first five in the order of DO .. NOT, the others in that of Ring.seen
         static final String KEYWORDS =
@@ -658,13 +651,22 @@ public final class FootANight {
         static final int THE_END = 0;
         static final int NUMBER = 1;
         static final int NO_TOKEN = 2;
-        static final int KEYWORD = 200;
         static final int DO = 200;
         static final int WHEN = 201;
         static final int OR = 202;
         static final int AND = 203;
         static final int NOT = 204;
         static final int FIRST_NAME = 205;
+
+        // what may stand next
+        static final int A_LINE = 0;
+        static final int A_DOING = 1;
+        static final int BEHIND_DOING = 2;
+        static final int A_CONDITION = 3;
+        static final int A_UNIT = 4;
+        static final int A_PART = 5;
+        static final int BEHIND_UNIT = 6;
+        static final int BEHIND_CONDITION = 7;
 
         final int[] code = new int[MOST_TAPE];
         int used = 0;
@@ -677,32 +679,43 @@ public final class FootANight {
         private int behind = 0;
         private int kind = THE_END;
         private int number = 0;
+        private int next = A_LINE;
+        private int doing = SLEEP;
+        private boolean compared = false;
+        private final int[] signs = new int[MOST_TAPE];
+        private int waiting = 0;
+        private int open = 0;
 
         boolean accepts(int[] tape, int count) {
             System.arraycopy(tape, 0, bytes, 0, count);
             length = count;
+            behind = 0;
             used = 0;
             lines = 0;
             fault = 0;
             place = NONE;
-            behind = 0;
+            next = A_LINE;
+            waiting = 0;
+            open = 0;
             advance();
-            for (int i = 0; i < MOST_LINES && kind == DO; i++) {
-                if (!readsLine()) {
+            for (int i = 0; i < length && kind != THE_END; i++) {
+                if (!readsToken()) {
                     return false;
                 }
-                lines++;
+                advance();
             }
-            if (kind == DO) {
-                return refuse(3);
-            }
-            return kind == THE_END || refuse(1);
+            return next == A_LINE || refuse(1);
         }
 
         private boolean refuse(int why) {
             fault = why;
             place = start;
             return false;
+        }
+
+        private boolean expect(int what) {
+            next = what;
+            return true;
         }
 
         private void emit(int step) {
@@ -712,136 +725,64 @@ public final class FootANight {
             }
         }
 
-        private boolean readsLine() {
-            advance();
+        private boolean readsToken() {
+            switch (next) {
+                case A_LINE: return readsDo();
+                case A_DOING: return readsDoing();
+                case BEHIND_DOING: return readsWhen();
+                case A_CONDITION: return readsCondition();
+                case A_UNIT: return readsUnit();
+                case A_PART: return readsPart();
+                case BEHIND_UNIT: return readsBehindUnit();
+                default: return readsBehindCondition();
+            }
+        }
+
+        private boolean readsDo() {
+            if (kind != DO) {
+                return refuse(1);
+            }
+            if (lines >= MOST_LINES) {
+                return refuse(3);
+            }
+            lines++;
+            return expect(A_DOING);
+        }
+
+        private boolean readsDoing() {
             if (kind != NUMBER) {
                 return refuse(1);
             }
-            int doing = number;
-            if (doing >= DOINGS) {
+            if (number >= DOINGS) {
                 return refuse(2);
             }
-            advance();
+            doing = number;
+            return expect(BEHIND_DOING);
+        }
+
+        private boolean readsWhen() {
             if (kind == WHEN) {
-                advance();
-                if (!readsEither(0)) {
-                    return false;
-                }
-            } else {
-                emit(1);
+                return expect(A_CONDITION);
             }
             if (kind != ';') {
                 return refuse(1);
             }
+            // a line without a condition takes its doing as if by one that is so
+            emit(1);
             emit(Law.TAKE + doing);
-            advance();
-            return true;
+            return expect(A_LINE);
         }
 
-        private boolean readsEither(int open) {
-            if (!readsBoth(open)) {
-                return false;
-            }
-            for (int i = 0; i < length && kind == OR; i++) {
-                advance();
-                if (!readsBoth(open)) {
-                    return false;
-                }
-                emit(Law.OR);
-            }
-            return true;
-        }
-
-        private boolean readsBoth(int open) {
-            if (!readsCondition(open)) {
-                return false;
-            }
-            for (int i = 0; i < length && kind == AND; i++) {
-                advance();
-                if (!readsCondition(open)) {
-                    return false;
-                }
-                emit(Law.AND);
-            }
-            return true;
-        }
-
-        private boolean readsCondition(int open) {
+        private boolean readsCondition() {
             if (kind != NOT && kind != '(') {
-                return readsComparison();
+                compared = false;
+                return readsUnit();
             }
             if (open >= MOST_OPEN) {
                 return refuse(3);
             }
-            if (kind == NOT) {
-                advance();
-                if (!readsCondition(open + 1)) {
-                    return false;
-                }
-                emit(Law.NOT);
-                return true;
-            }
-            advance();
-            if (!readsEither(open + 1)) {
-                return false;
-            }
-            if (kind != ')') {
-                return refuse(1);
-            }
-            advance();
-            return true;
-        }
-
-        private boolean readsComparison() {
-            if (!readsSum()) {
-                return false;
-            }
-            int sign = kind;
-            if (sign != '<' && sign != '=' && sign != '>') {
-                return refuse(1);
-            }
-            advance();
-            if (!readsSum()) {
-                return false;
-            }
-            emit(sign == '<' ? Law.BELOW : sign == '=' ? Law.SAME : Law.ABOVE);
-            return true;
-        }
-
-        private boolean readsSum() {
-            if (!readsProduct()) {
-                return false;
-            }
-            for (int i = 0; i < length && (kind == '+' || kind == '-'); i++) {
-                int sign = kind;
-                advance();
-                if (!readsProduct()) {
-                    return false;
-                }
-                emit(sign == '+' ? Law.ADD : Law.LESS);
-            }
-            return true;
-        }
-
-        private boolean readsProduct() {
-            if (!readsUnit()) {
-                return false;
-            }
-            for (int i = 0; i < length && (kind == '*' || kind == '/'); i++) {
-                int sign = kind;
-                advance();
-                if (sign == '/' && kind != NUMBER) {
-                    return refuse(1);
-                }
-                if (sign == '/' && number == 0) {
-                    return refuse(2);
-                }
-                if (!readsUnit()) {
-                    return false;
-                }
-                emit(sign == '*' ? Law.TIMES : Law.PART);
-            }
-            return true;
+            open++;
+            return putSign(A_CONDITION);
         }
 
         private boolean readsUnit() {
@@ -852,8 +793,89 @@ public final class FootANight {
             } else {
                 return refuse(1);
             }
-            advance();
-            return true;
+            return expect(BEHIND_UNIT);
+        }
+
+        private boolean readsPart() {
+            if (kind != NUMBER) {
+                return refuse(1);
+            }
+            return number == 0 ? refuse(2) : readsUnit();
+        }
+
+        private boolean readsBehindUnit() {
+            if (rankOf(kind) > rankOf('<')) {
+                settleSigns(rankOf(kind));
+                return putSign(kind == '/' ? A_PART : A_UNIT);
+            }
+            if (compared) {
+                return readsBehindCondition();
+            }
+            if (rankOf(kind) < rankOf('<')) {
+                return refuse(1);
+            }
+            compared = true;
+            settleSigns(rankOf(kind));
+            return putSign(A_UNIT);
+        }
+
+        private boolean readsBehindCondition() {
+            if (kind == AND || kind == OR) {
+                settleSigns(rankOf(kind));
+                return putSign(A_CONDITION);
+            }
+            if (kind != ')' && kind != ';') {
+                return refuse(1);
+            }
+            settleSigns(rankOf(OR));
+            // what waits now is the latest ( that is open, or nothing
+            boolean inside = waiting > 0;
+            boolean closes = kind == ')';
+            if (inside != closes) {
+                return refuse(1);
+            }
+            if (closes) {
+                waiting--;
+                open--;
+                return expect(BEHIND_CONDITION);
+            }
+            emit(Law.TAKE + doing);
+            return expect(A_LINE);
+        }
+
+        private boolean putSign(int then) {
+            if (waiting < signs.length) {
+                signs[waiting] = kind;
+                waiting++;
+            }
+            return expect(then);
+        }
+
+        /** The signs that wait and bind as strongly, or more so, have both their sides. */
+        private void settleSigns(int rank) {
+            while (waiting > 0 && rankOf(signs[waiting - 1]) >= rank) {
+                waiting--;
+                emit(Law.SIGNS + signs[waiting]);
+                if (signs[waiting] == NOT) {
+                    open--;
+                }
+            }
+        }
+
+        private static int rankOf(int sign) {
+            switch (sign) {
+                case OR: return 1;
+                case AND: return 2;
+                case NOT: return 3;
+                case '<':
+                case '=':
+                case '>': return 4;
+                case '+':
+                case '-': return 5;
+                case '*':
+                case '/': return 6;
+                default: return 0;
+            }
         }
 
         /** The next token is at hand: its kind, where it starts and what is behind it. */
@@ -880,7 +902,7 @@ public final class FootANight {
                 behind++;
             }
             int word = keywordAtHand();
-            kind = word == NONE ? NO_TOKEN : KEYWORD + word;
+            kind = word == NONE ? NO_TOKEN : DO + word;
         }
 
         private void advanceNumber() {
@@ -1090,9 +1112,13 @@ public final class FootANight {
 
         int fewestWatchers(Ring r) {
             fillTempted(r);
+            return fewestOf(r.n);
+        }
+
+        private int fewestOf(int n) {
             int best = NONE;
-            for (int set = 0; set < 1 << r.n; set++) {
-                if ((best == NONE || Integer.bitCount(set) < Integer.bitCount(best)) && standsStill(r.n, set)) {
+            for (int set = 0; set < 1 << n; set++) {
+                if ((best == NONE || Integer.bitCount(set) < Integer.bitCount(best)) && standsStill(n, set)) {
                     best = set;
                 }
             }
@@ -1134,7 +1160,8 @@ public final class FootANight {
                     continue;
                 }
                 build(r, standing | set);
-                int watching = fewestWatchers(r);
+                fillTempted(r);
+                int watching = fewestOf(r.n);
                 int watchers = watching == NONE ? NONE_HOLDS : Integer.bitCount(watching);
                 if (!found || watchers < wallWatchers
                     || watchers == wallWatchers && count < Integer.bitCount(wallSet)) {
