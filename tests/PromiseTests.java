@@ -361,6 +361,13 @@ public final class PromiseTests {
         faulty("do 1 when wide & 1;", 1, 15);
         faulty("do 1 when wides = 1;", 1, 10);
         faulty("do 1 when Wide = 1;", 1, 10);
+        // letters as many as stand together, from the first to the last
+        for (char letter : new char[] {'a', 'z', 'A', 'Z'}) {
+            faulty("do 1 when wide" + letter + " = 1;", 1, 10);
+        }
+        for (char other : new char[] {'@', '[', '`', '{', 0, 255}) {
+            faulty("do 1 when wide" + other + " = 1;", 1, 14);
+        }
         faulty("do 1 when when = 1;", 1, 10);
         faulty("do 1 when wide < not 1;", 1, 17);
         faulty("do 1\twhen 1=1;", 1, 4);
@@ -786,6 +793,11 @@ public final class PromiseTests {
         x.set(3, 0);
         x.set(6, 0);
         due("watching does not help: all must", x.still(), 1023);
+        // stopped for certain and without a cost: no greater VALUE against one that watches
+        x.ring(4);
+        x.set(7, 1000);
+        due("an equal VALUE is not a greater one", x.still(), 5);
+        x.set(7, 900);
         x = two();
         x.farm(0, 0, 0);
         due("nothing to take", x.still(), 0);
@@ -963,6 +975,16 @@ public final class PromiseTests {
         due("three by two borders of a foot", x.judged(), -1);
         x.set(9, 5);
         due("three", x.judged(), 3);
+        x = two();
+        x.farm(0, 0, 0);
+        x.was(1, 11);
+        due("farm 0 is not told: no width of -1", x.judged(), -1);
+        x.was(0, 0);
+        x.was(1, 10);
+        due("both are told", x.judged(), 0);
+        x.was(0, -1);
+        x.was(1, 11);
+        due("farm 0 is not told any more", x.judged(), -1);
     }
 
     private static void feetAsked() {
