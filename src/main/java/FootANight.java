@@ -181,7 +181,11 @@ public final class FootANight {
         if (!now.has(f) || what < 0 || what > DOES) {
             return NO_SUCH_NUMBER;
         }
-        return what == DOES ? now.does(f) : now.lands[f][what];
+        switch (what) {
+            case PURSE: return now.purseAsInt(f);
+            case DOES: return now.does(f);
+            default: return now.lands[f][what];
+        }
     }
 
     public int stake(int b, int what) {
@@ -291,12 +295,12 @@ public final class FootANight {
             return NONE;
         }
         int best = 0;
-        int most = 0;
+        long most = 0L;
         for (int feet = 0; feet <= SETTING_MOST[FEET]; feet++) {
             dream.copy(now);
             dream.told[FEET] = feet;
             dream.pass(d);
-            int purses = dream.added(PURSE);
+            long purses = dream.allPurses();
             if (feet == 0 || purses > most) {
                 best = feet;
                 most = purses;
@@ -312,7 +316,7 @@ public final class FootANight {
         dream.copy(now);
         dream.pass(d);
         switch (what) {
-            case 0: return dream.added(PURSE) - now.added(PURSE);
+            case 0: return (int) (dream.allPurses() - now.allPurses());
             case 1: return dream.moved - now.moved;
             case 2: return dream.added(CAUGHT) - now.added(CAUGHT);
             default: return dream.countEaten();
@@ -351,6 +355,8 @@ public final class FootANight {
         int moved = 0;
         final int[] told = new int[SETTINGS];
         final int[][] lands = new int[MOST_FARMS][FARM_PARTS];
+        // apart from what else a farm has, for they may come above what an int holds
+        final long[] purses = new long[MOST_FARMS];
         final int[][] stakes = new int[MOST_FARMS][STAKE_PARTS];
         final Law[] laws = new Law[TEXTS];
         private final int[] doing = new int[MOST_FARMS];
@@ -376,6 +382,7 @@ public final class FootANight {
                 land[HIT] = MOST_HIT;
                 land[EATEN] = NONE;
                 land[BEFORE] = NONE;
+                purses[f] = 0L;
                 Arrays.fill(stakes[f], 0);
                 stakes[f][PUSHER] = NONE;
             }
@@ -387,6 +394,7 @@ public final class FootANight {
             night = other.night;
             moved = other.moved;
             System.arraycopy(other.told, 0, told, 0, SETTINGS);
+            System.arraycopy(other.purses, 0, purses, 0, MOST_FARMS);
             for (int f = 0; f < MOST_FARMS; f++) {
                 System.arraycopy(other.lands[f], 0, lands[f], 0, FARM_PARTS);
                 System.arraycopy(other.stakes[f], 0, stakes[f], 0, STAKE_PARTS);
@@ -425,6 +433,19 @@ public final class FootANight {
                 sum += lands[f][part];
             }
             return sum;
+        }
+
+        long allPurses() {
+            long sum = 0L;
+            for (int f = 0; f < n; f++) {
+                sum += purses[f];
+            }
+            return sum;
+        }
+
+        /** As texts see it and as it is told: an int, which wraps. */
+        int purseAsInt(int f) {
+            return (int) purses[f];
         }
 
         int allWidths() {
@@ -501,7 +522,7 @@ public final class FootANight {
                 case 11: return lands[right][FAMILY] == land[FAMILY] ? 1 : 0;
                 case 12: return stakes[left][WALL];
                 case 13: return stakes[f][WALL];
-                default: return land[PURSE];
+                default: return purseAsInt(f);
             }
         }
 
@@ -532,7 +553,7 @@ public final class FootANight {
             }
             if (stopsOne(other)) {
                 land[CAUGHT]++;
-                land[PURSE] -= told[FINE];
+                purses[f] -= told[FINE];
                 stake[PUSH] = 0;
                 return;
             }
@@ -562,7 +583,7 @@ public final class FootANight {
 
         private void settle(int f) {
             int[] land = lands[f];
-            land[PURSE] += worthOf(land[WIDTH]) - costOf(f, doing[f]);
+            purses[f] += worthOf(land[WIDTH]) - costOf(f, doing[f]);
             land[HIT] = lost[f] ? 0 : Math.min(MOST_HIT, land[HIT] + 1);
             if (land[WIDTH] == 0 && land[EATEN] == NONE) {
                 land[EATEN] = night;
