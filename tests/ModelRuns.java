@@ -26,7 +26,7 @@ public final class ModelRuns {
         int[] law = new int[10];
         int[] family = new int[10];
         int[] dog = new int[10];
-        int[] purse = new int[10];
+        long[] purse = new long[10];
         int[] hit = new int[10];
         int[] caught = new int[10];
         int[] eaten = new int[10];
@@ -70,7 +70,8 @@ public final class ModelRuns {
             }
             Arrays.fill(width, 10);
             Arrays.fill(hit, 99);
-            for (int[] part : new int[][] {law, dog, purse, caught, wall, heavy, push}) {
+            Arrays.fill(purse, 0);
+            for (int[] part : new int[][] {law, dog, caught, wall, heavy, push}) {
                 Arrays.fill(part, 0);
             }
             for (int[] part : new int[][] {eaten, pusher, was}) {
@@ -199,7 +200,7 @@ public final class ModelRuns {
                 case "rkin": return family[f] == family[right] ? 1 : 0;
                 case "lwall": return wall[left];
                 case "rwall": return wall[f];
-                case "purse": return purse[f];
+                case "purse": return (int) purse[f];
                 default: return Integer.parseInt(u);
             }
         }
@@ -529,26 +530,37 @@ public final class ModelRuns {
             return (int) Arrays.stream(eaten, 0, n).filter(e -> e != -1).count();
         }
 
-        int feet(int d) {
-            int best = -1;
-            int most = 0;
+        /** All PURSES added behind d nights in thought, by FEET. */
+        long[] pursesByFeet(int d) {
+            long[] purses = new long[6];
             for (int feet = 0; feet <= 5; feet++) {
                 Model thought = new Model(this);
                 thought.told[9] = feet;
                 thought.nights(d);
-                int purses = thought.total(thought.purse);
-                if (best == -1 || purses > most) {
+                purses[feet] = thought.allPurses();
+            }
+            return purses;
+        }
+
+        int feet(int d) {
+            long[] purses = pursesByFeet(d);
+            int best = 0;
+            for (int feet = 1; feet <= 5; feet++) {
+                if (purses[feet] > purses[best]) {
                     best = feet;
-                    most = purses;
                 }
             }
             return best;
         }
 
+        long allPurses() {
+            return Arrays.stream(purse, 0, n).sum();
+        }
+
         int thought(int d, int what) {
             Model t = new Model(this);
             t.nights(d);
-            return new int[] {t.total(t.purse) - total(purse), t.moved - moved, t.total(t.caught) - total(caught),
+            return new int[] {Math.toIntExact(t.allPurses() - allPurses()), t.moved - moved, t.total(t.caught) - total(caught),
                 t.eatenNow()}[what];
         }
     }
@@ -1009,7 +1021,8 @@ public final class ModelRuns {
                 break;
             case 1:
                 what = any(0, 8);
-                int[][] parts = {m.width, m.law, m.family, m.dog, m.purse, m.hit, m.caught, m.eaten};
+                int[] purses = Arrays.stream(m.purse).mapToInt(purse -> (int) purse).toArray();
+                int[][] parts = {m.width, m.law, m.family, m.dog, purses, m.hit, m.caught, m.eaten};
                 due("of(" + f + ", " + what + ")", x.of(f, what),
                     !has || !in(what, 0, 8) ? -100000000 : what == 8 ? m.does(f) : parts[what][f]);
                 break;
@@ -1035,7 +1048,7 @@ public final class ModelRuns {
                 for (int each = 0; each < m.n; each++) {
                     due("of(" + each + ", 8)", x.of(each, 8), m.does(each));
                     due("of(" + each + ", 0)", x.of(each, 0), m.width[each]);
-                    due("of(" + each + ", 4)", x.of(each, 4), m.purse[each]);
+                    due("of(" + each + ", 4)", x.of(each, 4), (int) m.purse[each]);
                     due("of(" + each + ", 5)", x.of(each, 5), m.hit[each]);
                     due("stake(" + each + ", 2)", x.stake(each, 2), m.push[each]);
                 }
@@ -1119,6 +1132,125 @@ public final class ModelRuns {
         }
     }
 
+    // ---- purses above what an int holds
+
+    private static final long BOUND = 1L << 31;
+    private static int torn = 0;
+
+    private void tellFarm(int f, int what, int v) {
+        new int[][] {m.width, m.law, m.family, m.dog}[what][f] = v;
+        due("farm(" + f + ", " + what + ", " + v + ")", x.farm(f, what, v), true);
+    }
+
+    private void tellSet(int what, int v) {
+        m.told[what] = v;
+        due("set(" + what + ", " + v + ")", x.set(what, v), true);
+    }
+
+    private void tellPrices(int first, int next, int rest) {
+        tellSet(0, first);
+        tellSet(1, next);
+        tellSet(2, rest);
+    }
+
+    private void pass(int n) {
+        due("nights(" + n + ")", x.nights(n), m.night + n <= 9999 ? m.nights(n) : -1);
+    }
+
+    private long nightly() {
+        Model t = new Model(m);
+        t.nights(1);
+        return t.allPurses() - m.allPurses();
+    }
+
+    /** Each second farm eats its right neighbour, who is made wide again: far more feet than were told. */
+    private void growWide() {
+        feed("do 3;");
+        end(5);
+        text(1);
+        tellSet(9, 5);
+        tellSet(3, 0);
+        tellPrices(0, 0, 0);
+        for (int f = 0; f < m.n; f += 2) {
+            tellFarm(f, 1, 1);
+        }
+        while (m.total(m.width) < 2600) {
+            for (int f = 0; f < m.n; f++) {
+                if (m.width[f] < 60) {
+                    tellFarm(f, 0, 60);
+                }
+            }
+            pass(12);
+        }
+    }
+
+    /** As many nights as come as near to the bound as each price lets. */
+    private void growRich() {
+        for (int price : new int[] {99, 10, 1}) {
+            tellPrices(price, price, price);
+            while (m.night < 9999) {
+                long fit = nightly() > 0 ? (BOUND - 20000 - m.allPurses()) / nightly() : 0;
+                int n = (int) Math.min(Math.min(99, 9999 - m.night), fit);
+                if (n < 1) {
+                    break;
+                }
+                pass(n);
+            }
+        }
+    }
+
+    private boolean tears(int d) {
+        long[] purses = m.pursesByFeet(d);
+        long most = Arrays.stream(purses).max().orElse(0);
+        return Arrays.stream(purses).min().orElse(0) < BOUND && most >= BOUND;
+    }
+
+    private void askRich() {
+        int d = 1;
+        while (d < 60 && !tears(d)) {
+            d++;
+        }
+        torn += tears(d) ? 1 : 0;
+        due("feet(" + d + ")", x.feet(d), m.feet(d));
+        int other = 1 + random.nextInt(60);
+        due("feet(" + other + ")", x.feet(other), m.feet(other));
+        due("thought(" + other + ", 0)", x.thought(other, 0), m.thought(other, 0));
+    }
+
+    private void goRich() {
+        int n = 2 + 2 * random.nextInt(5);
+        m.begin(n);
+        due("ring(" + n + ")", x.ring(n), true);
+        growWide();
+        growRich();
+        image = new Model(m);
+        due("image(true)", x.image(true), true);
+        while (calls.size() < CALLS - 40) {
+            tellPrices(random.nextInt(100), random.nextInt(40), random.nextInt(3));
+            for (int i = random.nextInt(4); i > 0; i--) {
+                int f = random.nextInt(n);
+                tellFarm(f, random.nextInt(2), random.nextInt(2));
+                tellFarm((f + 1) % n, 0, 1 + random.nextInt(60));
+            }
+            askRich();
+            if (random.nextInt(3) == 0) {
+                newText();
+                pass(1 + random.nextInt(4));
+                for (int f = 0; f < n; f++) {
+                    due("of(" + f + ", 4)", x.of(f, 4), (int) m.purse[f]);
+                    due("of(" + f + ", 8)", x.of(f, 8), m.does(f));
+                }
+            }
+            if (random.nextInt(2) == 0) {
+                m = new Model(image);
+                due("image(false)", x.image(false), true);
+            }
+        }
+        if (calls.size() > CALLS) {
+            throw new IllegalStateException(calls.size() + " calls");
+        }
+    }
+
     private void go() {
         if (run % 3 == 0) {
             m.begin(2);
@@ -1152,12 +1284,15 @@ public final class ModelRuns {
         for (int run = first; run < first + runs && wrong < 20; run++) {
             new ModelRuns(run).go();
         }
+        for (int run = first; run < first + runs / 10 && wrong < 20; run++) {
+            new ModelRuns(run).goRich();
+        }
         List<String> names = new ArrayList<>(kinds.keySet());
         Collections.sort(names);
         LongSupplier least = () -> kinds.values().stream().mapToInt(i -> i).min().orElse(0);
         System.out.println(asked + " answers, " + wrong + " of them not as due, of each call at least "
-            + least.getAsLong() + ", of " + names.size() + " calls");
-        if (wrong != 0 || names.size() != 26) {
+            + least.getAsLong() + ", of " + names.size() + " calls; " + torn + " with purses at both sides of an int");
+        if (wrong != 0 || names.size() != 26 || torn == 0) {
             System.out.println(names);
             System.exit(1);
         }

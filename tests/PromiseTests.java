@@ -1009,6 +1009,70 @@ public final class PromiseTests {
         due("of several the least", x.feet(60), 0);
     }
 
+    /** Farm 0 of 2340 feet moves right against 30 feet asleep; its PURSE is 2147254660, farm 1's is 0. */
+    private static FootANight rich() {
+        FootANight x = two();
+        law(x, 0, "do 3;", 1);
+        x.farm(1, 1, 1);
+        for (int what = 0; what < 4; what++) {
+            x.set(what, 0);
+        }
+        x.set(9, 5);
+        x.farm(0, 0, 60);
+        for (int i = 0; i < 38; i++) {
+            x.farm(1, 0, 60);
+            x.nights(12);
+        }
+        for (int what = 0; what < 3; what++) {
+            x.set(what, 99);
+        }
+        // 2340 feet at 99: 231660 a night, 9268 nights; then 2310 a night 99 times, then 10 a night 109 times
+        for (int i = 0; i < 93; i++) {
+            x.nights(99);
+        }
+        x.nights(61);
+        x.set(0, 0);
+        x.set(1, 0);
+        x.set(2, 1);
+        x.nights(99);
+        x.set(0, 1);
+        x.set(2, 0);
+        x.nights(99);
+        x.nights(10);
+        x.set(0, 0);
+        x.set(2, 99);
+        x.farm(1, 0, 30);
+        return x;
+    }
+
+    private static void feetAboveAnInt() {
+        FootANight x = rich();
+        due("WIDTH", x.of(0, 0), 2340);
+        due("PURSE", x.of(0, 4), 2147254660);
+        // FEET 4: 2147254660 + 99 * 2314 = 2147483746, no int either; 5: 99 more
+        due("the most is above an int", x.feet(1), 5);
+        due("all are above it", x.feet(2), 5);
+        due("what comes to PURSES", x.thought(1, 0), 99 * 2315);
+        due("what comes to PURSES", x.thought(2, 0), 99 * (2315 + 2320));
+        due("nothing stays", x.of(0, 4), 2147254660);
+        x.image(true);
+        x.nights(1);
+        due("told as an int, which wraps", x.of(0, 4), 2147254660 + 99 * 2315);
+        law(x, 1, "do 2 when purse < 0;", 1);
+        x.farm(0, 1, 1);
+        due("seen by a text as an int, which wraps", x.of(0, 8), 2);
+        x.farm(0, 1, 0);
+        due("all are above it", x.feet(1), 5);
+        x.image(false);
+        due("gone back", x.of(0, 4), 2147254660);
+        due("gone back", x.feet(1), 5);
+        x.nights(60);
+        x.image(false);
+        x.ring(2);
+        due("a new ring's purses", x.thought(1, 0), 0);
+        due("a new ring's purse", x.of(0, 4), 0);
+    }
+
     private static void thoughtsAsked() {
         FootANight x = creeping();
         due("thought(0, 0)", x.thought(0, 0), NO_NUMBER);
@@ -1117,6 +1181,8 @@ public final class PromiseTests {
         }
         promise = "promise 12, towards 0";
         towardsZero();
+        promise = "promise 24, purses above an int";
+        feetAboveAnInt();
         System.out.println(asked + " answers, " + wrong + " of them not as due");
         if (wrong != 0) {
             System.exit(1);

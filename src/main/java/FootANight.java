@@ -19,7 +19,7 @@ public final class FootANight {
     private static final int TEXTS = 4;
     private static final int THOUSAND = 1000;
 
-    // what a farm is asked for, in the order of of()
+    // what a farm is asked for, in the order of of(); all but PURSE and DOES stand in Ring.lands
     private static final int WIDTH = 0;
     private static final int LAW = 1;
     private static final int FAMILY = 2;
@@ -355,7 +355,7 @@ public final class FootANight {
         int moved = 0;
         final int[] told = new int[SETTINGS];
         final int[][] lands = new int[MOST_FARMS][FARM_PARTS];
-        // apart from what else a farm has, for they may come above what an int holds
+        // PURSES stand apart from what else a farm has, for they may come above what an int holds
         final long[] purses = new long[MOST_FARMS];
         final int[][] stakes = new int[MOST_FARMS][STAKE_PARTS];
         final Law[] laws = new Law[TEXTS];
