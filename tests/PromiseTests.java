@@ -262,8 +262,9 @@ public final class PromiseTests {
         for (int i = 1; i <= 19; i++) {
             x.feed(0x20202020, 0x20202020, 0x20202020, 0x20202020, 0x20202020);
         }
-        x.end(381);
-        due("381 and 20 are above 400", x.feed(0, 0, 0, 0, 0), 400 < 401 && x.end(380) ? 400 : 0);
+        due("380 and 20 are 400", x.feed(0, 0, 0, 0, 0), 400);
+        yes("end(381)", x.end(381));
+        due("381 and 20 are above 400", x.feed(0, 0, 0, 0, 0), -1);
     }
 
     private static void tapeEnded() {

@@ -1064,7 +1064,8 @@ public final class FootANight {
             } else if (r.lands[against][DOG] != 0) {
                 through -= r.told[BARK];
             }
-            return through / (1 + r.stakes[border][HEAVY]);
+            int pushes = 1 + r.stakes[border][HEAVY];
+            return pushes > 1 ? through / pushes : through;
         }
 
         void findRests(Ring r) {
@@ -1074,6 +1075,7 @@ public final class FootANight {
             restMost = NONE;
             restAlike = 0;
             int rows = 1 << 2 * r.n;
+            // the row in which all do 1
             int all = (rows - 1) / 3;
             int most = 0;
             for (int row = 0; row < rows; row++) {
@@ -1088,8 +1090,9 @@ public final class FootANight {
                     restMost = row;
                     most = sum;
                 }
-                if (row % all == 0) {
-                    restAlike |= 1 << row / all;
+                int doing = digit(r, row, 0);
+                if (row == doing * all) {
+                    restAlike |= 1 << doing;
                 }
                 restCount++;
             }
