@@ -1225,7 +1225,7 @@ public final class ModelRuns {
         growRich();
         image = new Model(m);
         due("image(true)", x.image(true), true);
-        while (calls.size() < CALLS - 40) {
+        while (calls.size() < CALLS - 60) {
             tellPrices(random.nextInt(100), random.nextInt(40), random.nextInt(3));
             for (int i = random.nextInt(4); i > 0; i--) {
                 int f = random.nextInt(n);
